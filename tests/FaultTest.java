@@ -5,6 +5,7 @@ final class FaultTest {
     public static void main(String[] args) {
         tokens();
         syntax();
+        eachPlace();
         laws();
         roomOfSorts();
         roomOfLaws();
@@ -40,6 +41,8 @@ final class FaultTest {
         DUE.fault("field f 00001;", 1, 8);
         DUE.fault("field f 12345;", 1, 8);
         good("log loga; log rivers; log ifs; field spri 3;");
+        good("log mog; log xiver; log zzzz; field azaz 1; field zaza 1; field aazz 1; field zzzzzzz 1;");
+        good("log ab; log ba; log b; log abb; field bb 1; field aa 1; field a 1; field aaa 1; field aab 1;");
         DUE.fault("loga;", 1, 0);
         for (String word : ModelText.WORDS) {
             DUE.fault("log " + word + ";", 1, 4);
@@ -68,6 +71,28 @@ final class FaultTest {
         DUE.fault("seed = 1;", 1, 5);
         DUE.fault("which = 1;", 1, 0);
         DUE.fault("spring -1;", 1, 7);
+    }
+
+    /** Each TOKEN of each TELL once in the 401st place, once another one, once the text's end. */
+    private static void eachPlace() {
+        String told = "log a; field f 1; ";
+        for (String tell : new String[] {"log b ;", "field g 2 ;", "notch a f 2 ;", "notch a river 2 ;", "drain f a 1 ;",
+            "spring 3 ;", "seed 4 ;", "worth = if 1 * 2 < ( 3 ) then flow / 4 else 5 + 6 ;"}) {
+            String[] tokens = tell.split(" ");
+            for (int i = 0; i < tokens.length; i++) {
+                String ahead = String.join(" ", java.util.Arrays.copyOf(tokens, i));
+                String behind = String.join(" ", java.util.Arrays.copyOfRange(tokens, i, tokens.length));
+                int tokensOfSeeds = 400 - 7 - i;
+                int fours = tokensOfSeeds % 3;
+                String full = told + "costs = 1;".repeat(fours) + "seed 1;".repeat((tokensOfSeeds - 4 * fours) / 3);
+                DUE.fault(full + ahead + " " + behind, 2, full.length() + ahead.length() + 1);
+                DUE.fault(told + ahead + " = log", 1,
+                        told.length() + ahead.length() + (tokens[i].equals("=") ? 3 : 1));
+                if (i > 0) {
+                    DUE.fault(told + ahead, 1, told.length() + ahead.length());
+                }
+            }
+        }
     }
 
     private static void laws() {

@@ -4,6 +4,7 @@ final class LawTest {
 
     public static void main(String[] args) {
         counts();
+        longOnes();
         wraps();
         ifs();
         dividesByNought();
@@ -30,10 +31,17 @@ final class LawTest {
         needs("10 - 7 / 2", 7);
         needs("20 - ((1 + 2) * (3 + (4 - 1)))", 2);
         needs("0012", 12);
+        // six ( with two more waiting ahead of each
+        needs("1-1*(3+1*(5-6*(7-8*(9-1*(2-3*(4-5*6))))))", 3443);
         // 8 + 2/3 * 1/4 of it is 48/5, two thirds of that 32/5
         needs("flow", 640);
         needs("area + wide * 10 + which * 100 + store * 1000 + grown + day", 7 + 20 + 100 + 1000);
         needs("logs * 10 + fields", 12);
+    }
+
+    private static void longOnes() {
+        SluiceLogs logs = DUE.of("field f 1; needs = " + "1+".repeat(196) + "1;");
+        DUE.due("197 ones, 400 tokens", logs.field(0, 4), 197);
     }
 
     private static void wraps() {

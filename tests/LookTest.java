@@ -64,6 +64,11 @@ final class LookTest {
             DUE.due("field 1 " + what, logs.field(1, what), what < 10 ? fieldG[what] : -1);
             DUE.due("notch 1 " + what, logs.notch(1, what), what < 5 ? notchToB[what] : -1);
         }
+        DUE.due("widths of a", DUE.of(TWO.replace("a b 2", "a b 3")).log(0, 2), 4);
+        DUE.due("widths of b", DUE.of(TWO.replace("a b 2", "a b 3")).log(1, 2), 3);
+        DUE.due("notches of a", logs.log(0, 3), 3);
+        DUE.due("spread", logs.spread(), 100);
+        DUE.due("richest", logs.richest(), 0);
         DUE.due("to g", logs.notch(2, 1), 11);
         DUE.due("to the river", logs.notch(3, 1), 20);
         DUE.due("its log", logs.notch(3, 0), 1);
@@ -145,6 +150,15 @@ final class LookTest {
         has(up, "field", 0, 28, 1);
         river(up, 0, 1, 7, 1);
         DUE.due("round", up.round(), 2100);
+        // three logs and odd quarters: a = 8 + 3g/4, b = a/2 + f/4, c = b/3, f = a/2, g = 2b/3 + c
+        SluiceLogs odd = DUE.of("log a; log b; log c; field f 1; field g 1; notch a b 1; notch a f 1; notch b c 1;"
+                + "notch b g 2; notch c g 3; drain g a 3; drain f b 1;");
+        has(odd, "log", 0, 256, 17);
+        has(odd, "log", 1, 160, 17);
+        has(odd, "log", 2, 160, 51);
+        has(odd, "field", 0, 128, 17);
+        has(odd, "field", 1, 160, 17);
+        river(odd, 0, 1, 8, 1);
         SluiceLogs drained = DUE.of("log a; field f 1; notch a f 3; drain f a 3; spring 9;");
         has(drained, "field", 0, 36, 1);
         DUE.due("flow", drained.field(0, 2), 3600);

@@ -110,8 +110,47 @@ final class RandomText {
         }
     }
 
+    /** A good text, its TELLS in disorder, or some of its names and numbers others. */
+    List<String> disorderedTokens() {
+        List<List<String>> tells = new ArrayList<>(List.of(new ArrayList<>()));
+        for (String token : goodTokens()) {
+            tells.get(tells.size() - 1).add(token);
+            if (token.equals(";")) {
+                tells.add(new ArrayList<>());
+            }
+        }
+        for (int wrongs = from(1, 2); wrongs > 0; wrongs--) {
+            int at = random.nextInt(tells.size());
+            int to = random.nextInt(tells.size());
+            int how = random.nextInt(4);
+            if (how == 0) {
+                tells.add(to, tells.remove(at));
+            } else if (how == 1) {
+                for (int more = from(1, 4); more > 0; more--) {
+                    tells.add(at, new ArrayList<>(tells.get(at)));
+                }
+            } else if (!tells.get(at).isEmpty()) {
+                List<String> tell = tells.get(at);
+                int token = random.nextInt(tell.size());
+                if (Character.isDigit(tell.get(token).charAt(0))) {
+                    tell.set(token, "" + (random.nextBoolean() ? from(0, 11) : from(90, 120)));
+                } else if (!ModelText.WORDS.contains(tell.get(token)) && tell.get(token).matches("[a-z]+")) {
+                    tell.set(token, NAMES[random.nextInt(NAMES.length)]);
+                }
+            }
+        }
+        List<String> tokens = new ArrayList<>();
+        for (List<String> tell : tells) {
+            tokens.addAll(tell);
+        }
+        return tokens;
+    }
+
     /** A good text's TOKENS, some of them gone, put in or changed. */
     List<String> spoiltTokens() {
+        if (random.nextInt(3) > 0) {
+            return disorderedTokens();
+        }
         List<String> tokens = goodTokens();
         for (int wrongs = from(1, 3); wrongs > 0; wrongs--) {
             int at = random.nextInt(tokens.size() + 1);

@@ -76,6 +76,14 @@ final class TellTest {
         DUE.due("no fields", DUE.of("log a; notch a river 1;").ask(0), -2);
         DUE.due("no fields, no such k", DUE.of("log a; notch a river 1;").ask(1), -1);
         DUE.due("no notches", DUE.of("field f 1;").ask(0), -2);
+        // steps 0, 3 and 5: h feels 0 1 0, f feels 0 2 2
+        String rest = "notch a f 3; notch a h 0; notch a river 0;";
+        DUE.due("at worst two, each", DUE.of("log a; field h 1; field f 1;" + rest).ask(0), 0);
+        DUE.due("at worst two, each", DUE.of("log a; field f 1; field h 1;" + rest).ask(0), 0);
+        SluiceLogs all = DUE.of("log a; log b; log c; log d; field f 1;" + "notch a a 1;".repeat(3) + "notch b b 1;".repeat(3)
+                + "notch c c 1;".repeat(3) + "notch d d 1;".repeat(3));
+        DUE.due("all 24 left", all.ask(0), 0);
+        DUE.due("all 24 fit", all.fits(0, 0), 24);
         SluiceLogs empty = new SluiceLogs();
         DUE.due("empty", empty.ask(0), -2);
         DUE.due("empty", empty.ask(1), -1);

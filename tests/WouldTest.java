@@ -107,6 +107,7 @@ final class WouldTest {
         DUE.due("stops the river", other.tempted(), 1);
         other.step(1, false);
         DUE.due("has all", other.tempted(), 0);
+        DUE.due("by the first step", DUE.of("log a; field f 1; notch a river 1; notch a f 3;").tempted(), 1);
         // only at another log's notch would f have more
         SluiceLogs far = DUE.of("log a; log b; field f 1; notch a b 3; notch a river 1; notch b f 3;");
         DUE.due("far", far.tempted(), 0);
@@ -173,6 +174,9 @@ final class WouldTest {
         DUE.due("far", far.feeds(0), 2);
         far.drain(1, 0, 3);
         DUE.due("further", far.feeds(0), 3);
+        SluiceLogs chain = DUE.of("log a; log b; log c; log d; field f 1; field g 1; notch a g 1; notch b a 1;"
+                + "notch c b 1; notch d c 1; drain f d 1;");
+        DUE.due("by all the logs", chain.feeds(0), 2);
     }
 
     private static void hangs() {

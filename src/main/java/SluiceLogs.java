@@ -451,7 +451,8 @@ public final class SluiceLogs {
         }
         int logs = now.drainTarget(field);
         int fields = 0;
-        for (int turn = 0; turn <= plan.logs; turn++) {
+        // each turn but the last comes to one more LOG at least
+        for (int turn = 0; turn < plan.logs; turn++) {
             for (int notch = 0; notch < plan.notches; notch++) {
                 if (now.state.wide[notch] == 0 || (logs >> plan.notchLog[notch] & 1) == 0) {
                     continue;
@@ -976,7 +977,6 @@ public final class SluiceLogs {
             Arrays.fill(parts, 0);
             Arrays.fill(lostParts, 0);
             Arrays.fill(reached, false);
-            Arrays.fill(open, false);
         }
 
         /** A LOG whose WIDTHS are all 0 is as one with a NOTCH into the river. */
