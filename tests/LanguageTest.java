@@ -107,6 +107,7 @@ final class LanguageTest {
         while (calls.find()) {
             rule(calls.group(), CALLED.contains(calls.group()));
         }
+        rule("Arrays.fill over arrays of numbers alone", !Pattern.compile("Arrays\\.fill\\([^;]*\\b(true|false)\\)").matcher(code).find());
     }
 
     /** A method begins at a line that ends with ") {" and no word of a loop or an if, and ends at its brace. */

@@ -114,7 +114,9 @@ public final class SluiceLogs {
         now.settle();
         past.many = 0;
         talk.many = 0;
-        Arrays.fill(slotHolds, false);
+        for (int slot = 0; slot < SLOTS; slot++) {
+            slotHolds[slot] = false;
+        }
     }
 
     public int place() {
@@ -976,7 +978,9 @@ public final class SluiceLogs {
             Arrays.fill(flow, 0);
             Arrays.fill(parts, 0);
             Arrays.fill(lostParts, 0);
-            Arrays.fill(reached, false);
+            for (int log = 0; log < MOST_LOGS; log++) {
+                reached[log] = false;
+            }
         }
 
         /** A LOG whose WIDTHS are all 0 is as one with a NOTCH into the river. */
