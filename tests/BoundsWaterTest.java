@@ -12,12 +12,14 @@ final class BoundsWaterTest {
         allWidths0();
         whatComesToLog0();
         quarters();
+        quartersToAndFro();
         leastTerms();
         nothingComes();
         nothingComesByADrain();
         floodWithoutAWay();
         floodThatIsReached();
         floodOfAll();
+        floodOfTheTextAhead();
         flowRoundedDown();
         flow0();
         otherLogs();
@@ -97,6 +99,22 @@ final class BoundsWaterTest {
             lost(logs, over[quarters], under[quarters]);
             kept(logs, quarters == 0 ? 9 : over[4 - quarters], under[(4 - quarters) % 4]);
             BOUNDS.is("ROUND", logs.round(), 225 * quarters);
+        }
+    }
+
+    private static void quartersToAndFro() {
+        BOUNDS.sentence(7, "so many QUARTERS of that are drained; it keeps the rest.");
+        // a = 8 + q b / 4, b = r a / 4, so that a = 128 / (16 - q r)
+        int[][] overOfA = {{8, 8, 8, 8}, {8, 128, 64, 128}, {8, 64, 32, 64}, {8, 128, 64, 128}};
+        int[][] underOfA = {{1, 1, 1, 1}, {1, 15, 7, 13}, {1, 7, 3, 5}, {1, 13, 5, 7}};
+        int[][] overOfB = {{0, 2, 4, 6}, {0, 32, 32, 96}, {0, 16, 16, 48}, {0, 32, 32, 96}};
+        for (int q = 0; q <= 3; q++) {
+            for (int r = 0; r <= 3; r++) {
+                SluiceLogs logs = BOUNDS.of("log a; log b; field f 1; field g 1; notch a f 1; notch b g 1; drain f b " + r
+                        + "; drain g a " + q + "; ");
+                hasLog(logs, 0, overOfA[q][r], underOfA[q][r]);
+                hasField(logs, 1, overOfB[q][r], r == 0 ? 1 : underOfA[q][r]);
+            }
         }
     }
 
@@ -226,6 +244,21 @@ final class BoundsWaterTest {
         logs.step(1, false);
         BOUNDS.is("a FLOOD", logs.count(6), 0);
         hasField(logs, 0, 8, 1);
+    }
+
+    private static void floodOfTheTextAhead() {
+        BOUNDS.sentence(39, FLOOD);
+        for (String text : new String[] {"", "field f 1; ", "log a; ", "log a; field f 1; notch a f 1; "}) {
+            SluiceLogs logs = BOUNDS.of(A_FLOOD);
+            logs.mend(-1);
+            BOUNDS.is("a FLOOD", logs.count(6), 1);
+            Due.type(logs, text);
+            logs.read();
+            BOUNDS.is("a FLOOD behind " + text, logs.count(6), 0);
+            BOUNDS.is("RICHEST", logs.richest(), text.contains("field") ? 0 : -2);
+            BOUNDS.is("mend", logs.mend(-1), text.equals("field f 1; ") ? -2 : 0);
+            BOUNDS.asMade("behind the text of a FLOOD", () -> BOUNDS.of(text), logs);
+        }
     }
 
     private static void flowRoundedDown() {
