@@ -44,11 +44,11 @@ public final class SluiceLogs {
     private final byte[] tape = new byte[MOST_BYTES];
     private int tapeBytes = 0;
     private int faultPlace = NONE;
-    private final Reader reader = new Reader();
     private Plan plan = new Plan();
     private Plan sparePlan = new Plan();
-    private final World now = new World();
-    private final World would = new World();
+    private final Reader reader = new Reader(sparePlan);
+    private final World now = new World(plan);
+    private final World would = new World(plan);
     private final Past past = new Past();
     private final State[] slots = new State[SLOTS];
     private final boolean[] slotHolds = new boolean[SLOTS];
@@ -1135,6 +1135,10 @@ public final class SluiceLogs {
         private final int[] vars = new int[Plan.VARS];
         private final int[] stack = new int[Plan.MOST_CODES];
 
+        World(Plan first) {
+            plan = first;
+        }
+
         /** To be called behind every change of WIDTHS, DRAINS or SPRING. */
         void settle() {
             water.solve(plan, state);
@@ -1486,6 +1490,10 @@ public final class SluiceLogs {
         private int laterPlace;
         private final int[] waiting = new int[MOST_WAITING];
         private int waits;
+
+        Reader(Plan first) {
+            plan = first;
+        }
 
         int readText(byte[] text, int bytes, Plan into) {
             tokens.scan(text, bytes);
